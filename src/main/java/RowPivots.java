@@ -57,7 +57,7 @@ public final class RowPivots {
         acts = new Acts();
         sweep = new Sweep();
         values = new Values();
-        reader = new Reader(now.tape);
+        reader = new Reader();
         told = new Grid();
         trial = new Grid();
         ratio = new Ratio();
@@ -88,7 +88,7 @@ public final class RowPivots {
 
     public int text() {
         int lines = 0;
-        reader.open();
+        reader.open(now.tape);
         boolean well = reader.readSize();
         if (well) {
             told.clear(reader.first, reader.second);
@@ -344,7 +344,6 @@ public final class RowPivots {
             return 1;
         }
         trial.copyWithout(matrix, row, column);
-        trial.clearSides();
         return determinantOf(trial, (row + column) % 2 != 0, lower);
     }
 
@@ -575,6 +574,7 @@ public final class RowPivots {
             System.arraycopy(other.lower, 0, lower, 0, CELLS);
         }
 
+        /** Takes over what a ROW and a COLUMN leave of another MATRIX; SIDES are 0. */
         void copyWithout(Grid other, int row, int column) {
             clear(other.rows - 1, other.columns - 1);
             for (int i = 0; i < rows; i++) {
@@ -1126,7 +1126,7 @@ public final class RowPivots {
         }
     }
 
-    /** Goes over a tape token by token; the token ahead stands in its fields. */
+    /** Goes over its copy of a tape token by token; the token ahead stands in its fields. */
     private static final class Scanner {
         static final int END = 0;
         static final int WORD = 1;
@@ -1138,14 +1138,11 @@ public final class RowPivots {
         int type;
         int place;
         int value;
-        private final Tape tape;
+        private final Tape tape = new Tape();
         private int next;
 
-        Scanner(Tape source) {
-            tape = source;
-        }
-
-        void open() {
+        void open(Tape source) {
+            tape.copy(source);
             next = 0;
             advance();
         }
@@ -1246,20 +1243,16 @@ public final class RowPivots {
         int word;
         int first;
         int second;
-        private final Scanner scanner;
+        private final Scanner scanner = new Scanner();
         private final int[] uppers = new int[WIDTH];
         private final int[] lowers = new int[WIDTH];
         private int wordPlace;
         private int number;
 
-        Reader(Tape tape) {
-            scanner = new Scanner(tape);
-        }
-
-        void open() {
+        void open(Tape tape) {
             fault = 0;
             faultPlace = NONE;
-            scanner.open();
+            scanner.open(tape);
         }
 
         boolean isAtEnd() {

@@ -160,6 +160,7 @@ public final class PromisesTest {
         faulty("size", 1, 4);
         faulty("sizes 2 2;", 1, 0);
         faulty("Size 2 2;", 1, 0);
+        faulty("aize 2 2;", 1, 0);
         faulty("siZe 2 2;", 1, 0);
         faulty("size 2 2", 1, 8);
         faulty("size 2 2 ", 1, 9);
@@ -190,6 +191,7 @@ public final class PromisesTest {
         faulty("size 2 2;swap 2 0;", 2, 14);
         faulty("size 2 2;scale 2 1;", 2, 15);
         faulty("size 2 2;add 0 2 1;", 2, 15);
+        faulty("size 2 2;add 2 0 1;", 2, 13);
         faulty("size 2 2;reduce 3;", 2, 16);
         faulty("size 2 2;reduce -1;", 1, 16);
         faulty("size 2 2;reduce 0;", 3, 9);
@@ -263,7 +265,10 @@ public final class PromisesTest {
         due("by -1", x.scale(0, -1, 1), 0);
         due("just -1000000000", x.entry(0, 1, false), -1000000000);
         due("by 99/98", x.scale(0, 99, 98), 3);
-        due("by 1/99", x.scale(0, 1, 99), 0);
+        x = of("size 1 1;row 0 0 1;scale 0 1/50;scale 0 1/50;scale 0 1/50;scale 0 1/50;scale 0 1/80;");
+        due("1 by 500000000, by 2", x.scale(0, 1, 2), 0);
+        due("a lower number of just 1000000000", x.entry(0, 1, true), 1000000000);
+        due("by 1/2", x.scale(0, 1, 2), 3);
     }
 
     private static void add() {
@@ -690,8 +695,21 @@ public final class PromisesTest {
         x.set(0, 1, 3, 1);
         due("again(0)", x.again(0), true);
         due("entry", x.entry(0, 1, false), 2);
+        for (int k = 0; k < 3; k++) {
+            x.feed(k, k, k, k, k);
+        }
+        x.text();
         due("again(2) once more", x.again(2), true);
         due("tape", x.count(4), 9);
+        due("its own bytes", x.text(), 0);
+        x = of("size 3 3;row 2 0 1 0 0;scale 2 999;scale 2 999;scale 2 999;");
+        x.scale(2, 999, 1);
+        x.image(1);
+        x.set(0, 0, 1, 1);
+        x.again(1);
+        due("why of 3", x.why(1, 0), 4);
+        due("ROW", x.why(1, 1), 2);
+        due("COLUMN", x.why(1, 2), 1);
     }
 
     private static void name(int number, String told) {
