@@ -1,8 +1,8 @@
 import java.util.Arrays;
 
 /**
- * Linear systems solved exactly. Nothing is made after the constructor but the (at most three)
- * images, since all calls of a run share one room: every working row is made once and used again.
+ * Linear systems solved exactly. All calls of a run share one room, so every working row is made
+ * once and used again; after the constructor only images and undo rows are made, each one once.
  */
 public final class RowPivots {
     public static final int NONE = -1;
