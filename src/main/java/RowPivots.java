@@ -94,7 +94,7 @@ public final class RowPivots {
             told.clear(reader.first, reader.second);
         }
         while (well && lines < TAPE_BYTES && !reader.isAtEnd()) {
-            well = reader.readLine(told.rows, told.columns) && carryOut() && reader.readStop();
+            well = reader.readLine(told.rows, told.columns) && reader.readStop() && carryOut();
             lines++;
         }
         now.tape.length = 0;
@@ -872,8 +872,8 @@ public final class RowPivots {
     }
 
     /**
-     * What each COLUMN has by a SOLUTION or a NULL. Once a step on the way is LONG, all that the
-     * order told brings behind it is UNKNOWN; what came before, and the FREE ones, stay known.
+     * What each COLUMN has by a SOLUTION or a NULL. Once a step on the way to it is LONG it is
+     * UNKNOWN, and so is every other whose ROW has an ENTRY there that is not 0.
      */
     private static final class Values {
         private final int[] upper = new int[MOST];
@@ -950,9 +950,12 @@ public final class RowPivots {
             }
         }
 
-        /** An ENTRY times what its COLUMN has: LONG if that is UNKNOWN, even if the ENTRY is 0. */
+        /** An ENTRY times what its COLUMN has; 0 brings 0 even where that is UNKNOWN, else LONG. */
         private void multiply(Grid grid, int row, int column) {
             part.load(grid, row, column);
+            if (part.upper == 0) {
+                return;
+            }
             if (column < 0 || column >= MOST || (known >> column & 1) == 0) {
                 part.spoil();
                 return;

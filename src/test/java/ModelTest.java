@@ -214,27 +214,32 @@ public final class ModelTest {
             if (free != NONE) {
                 x[free] = Frac.ONE;
             }
-            boolean stuck = false;
             for (int k = pivots.size() - 1; k >= 0; k--) {
                 Pivot p = pivots.get(k);
-                if (stuck) {
-                    x[p.column] = null;
-                    continue;
-                }
                 try {
                     Frac v = free == NONE ? m[p.row][columns] : Frac.ZERO;
                     for (int c = 0; c < columns; c++) {
                         if (c != p.column) {
-                            v = v.plus(m[p.row][c].times(x[c]).checked().negative()).checked();
+                            v = v.plus(product(m[p.row][c], x[c]).negative()).checked();
                         }
                     }
                     x[p.column] = v.over(p.value).checked();
                 } catch (Unknown u) {
-                    stuck = true;
                     x[p.column] = null;
                 }
             }
             return x;
+        }
+
+        /** An ENTRY of 0 brings 0, whatever its COLUMN has or has not. */
+        static Frac product(Frac entry, Frac has) {
+            if (entry.isZero()) {
+                return Frac.ZERO;
+            }
+            if (has == null) {
+                throw new Unknown();
+            }
+            return entry.times(has).checked();
         }
 
         Frac determinant() {
@@ -410,7 +415,6 @@ public final class ModelTest {
             m = zeros(rows, columns);
             while (tokens.get(at).kind != '$') {
                 line(rows, columns);
-                take(";");
                 lines++;
             }
         }
@@ -425,6 +429,7 @@ public final class ModelTest {
                         int[] f = fraction();
                         m[r][c] = Frac.of(f[0], f[1]);
                     }
+                    take(";");
                     return;
                 }
                 case "set" -> {
@@ -432,6 +437,7 @@ public final class ModelTest {
                     int c = number(0, columns);
                     int[] f = fraction();
                     m[r][c] = Frac.of(f[0], f[1]);
+                    take(";");
                     return;
                 }
                 case "swap" -> a = new int[] {number(0, rows - 1), number(0, rows - 1)};
@@ -449,6 +455,7 @@ public final class ModelTest {
                 case "reduce" -> a = new int[] {number(0, 2)};
                 default -> throw new Fault(1, word.place);
             }
+            take(";");
             try {
                 m = act(m, word.text, a);
             } catch (Refused r) {
@@ -770,10 +777,7 @@ public final class ModelTest {
                 Frac[] x = e.solve(NONE);
                 Frac sum = Frac.ZERO;
                 for (int c = 0; c < columns(); c++) {
-                    if (x[c] == null) {
-                        return null;
-                    }
-                    sum = sum.plus(now.m[r][c].times(x[c]).checked()).checked();
+                    sum = sum.plus(Elim.product(now.m[r][c], x[c])).checked();
                 }
                 return sum.plus(now.m[r][columns()].negative()).checked().answer(lower);
             });

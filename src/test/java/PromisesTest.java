@@ -202,7 +202,13 @@ public final class PromisesTest {
         faulty("size 2 2;set 0 0 1; scale 0 3/3;", 3, 20);
         faulty("size 2 2;set 0 0 1; scale 0 0;", 3, 20);
         faulty("size 1 1;set 0 1 999;scale 0 999;scale 0 999;scale 0 999;", 3, 45);
-        faulty("size 1 1;swap 0 0", 3, 9);
+        faulty("size 1 1;swap 0 0", 1, 17);
+        faulty("size 1 1;add 0 0 1", 1, 18);
+        faulty("size 1 1;add 0 0 1 ", 1, 19);
+        faulty("size 1 1;add 0 0 1 1;", 1, 19);
+        faulty("size 1 1;reduce 0 row", 1, 18);
+        faulty("size 1 1;scale 0 1 1000;", 1, 19);
+        faulty("size 1 1;scale 0 1/1 ;$", 3, 9);
         due("of the latest text()", of("size 1 1;").fault(0), 0);
     }
 
@@ -499,19 +505,38 @@ public final class PromisesTest {
             .solution(0, false), UNKNOWN);
     }
 
+    /** What COLUMN 1 has is LONG: a ROW with 0 there does not ask for it, another one does. */
     private static void longOnTheWay() {
-        // by RULE 1 the PIVOTS are (0, 0), (1, 1); the last one is solved first and is LONG
-        RowPivots x = of("size 2 3;row 0 1 0 0 5;row 1 0 1/99 0 0;"
-            + "scale 1 1/99;scale 1 1/99;scale 1 1/99;set 1 3 99;");
+        String small = "scale 1 1/99;scale 1 1/99;scale 1 1/99;";
+        RowPivots x = of("size 2 3;row 0 1 0 0 5;row 1 0 1/99 0 0;" + small + "set 1 3 99;");
         due("KIND", x.kind(), 2);
         due("LONG", x.solution(1, false), UNKNOWN);
-        due("behind what is LONG", x.solution(0, false), UNKNOWN);
-        due("FREE", x.solution(2, false), 0);
-        due("FREE", x.solution(2, true), 1);
-        due("residue", x.residue(0, false), UNKNOWN);
+        due("LONG", x.solution(1, true), UNKNOWN);
+        ratio("over an ENTRY of 0", x.solution(0, false), x.solution(0, true), 5, 1);
+        ratio("FREE", x.solution(2, false), x.solution(2, true), 0, 1);
+        ratio("residue over 0", x.residue(0, false), x.residue(0, true), 0, 1);
+        due("residue", x.residue(1, false), UNKNOWN);
+        due("would over 0", x.would(3, 1, 1, 0, false), 5);
+        due("would", x.would(3, 1, 1, 1, false), UNKNOWN);
+        due("would not be LONG", x.would(3, 1, 99, 1, false), 96059601);
         x.swap(0, 1);
-        due("now it is solved last", x.solution(0, false), 5);
+        due("now it is solved before", x.solution(0, false), 5);
         due("LONG", x.solution(1, false), UNKNOWN);
+
+        x = of("size 2 3;row 0 1 1 0 5;row 1 0 1/99 0 0;" + small + "set 1 3 99;");
+        due("LONG", x.solution(1, false), UNKNOWN);
+        due("over an ENTRY that is not 0", x.solution(0, false), UNKNOWN);
+        due("residue", x.residue(0, false), UNKNOWN);
+
+        x = of("size 2 3;row 0 1 0 1 5;row 1 0 1/99 0 0;" + small + "set 1 2 99;");
+        due("NULL LONG", x.zero(2, 1, false), UNKNOWN);
+        ratio("NULL over an ENTRY of 0", x.zero(2, 0, false), x.zero(2, 0, true), -1, 1);
+        ratio("NULL of itself", x.zero(2, 2, false), x.zero(2, 2, true), 1, 1);
+
+        x = of("size 2 2;row 1 0 1/99 0;" + small + "set 0 0 1;set 1 0 11;");
+        due("INVERSE LONG", x.inverse(1, 0, false), UNKNOWN);
+        ratio("INVERSE over 0", x.inverse(0, 0, false), x.inverse(0, 0, true), 1, 1);
+        due("INVERSE not LONG", x.inverse(1, 1, false), 96059601);
     }
 
     private static void free() {
