@@ -1,64 +1,5 @@
 /** For each promise of the document: ordinary inputs, the edges that it names, wrong inputs. */
-public final class PromisesTest {
-    private static final int NONE = RowPivots.NONE;
-    private static final int UNKNOWN = RowPivots.UNKNOWN;
-    private static final int LARGE = Integer.MAX_VALUE;
-    private static final int SMALL = Integer.MIN_VALUE;
-    private static String promise = "";
-    private static int wrong = 0;
-
-    private static void due(String call, int got, int want) {
-        if (got != want) {
-            wrong++;
-            System.out.println(promise + ": " + call + " answered " + got + ", due is " + want);
-        }
-    }
-
-    private static void due(String call, boolean got, boolean want) {
-        due(call, got ? 1 : 0, want ? 1 : 0);
-    }
-
-    /** The two numbers of a fraction that an answer has. */
-    private static void ratio(String call, int upper, int lower, int wantUpper, int wantLower) {
-        due(call + " upper", upper, wantUpper);
-        due(call + " lower", lower, wantLower);
-    }
-
-    private static void put(RowPivots x, String text) {
-        int[] five = new int[5];
-        int before = x.count(4);
-        for (int at = 0; at < text.length(); at += 20) {
-            for (int k = 0; k < 20; k++) {
-                int sign = at + k < text.length() ? text.charAt(at + k) : ' ';
-                five[k / 4] = five[k / 4] << 8 | sign;
-            }
-            x.feed(five[0], five[1], five[2], five[3], five[4]);
-        }
-        x.end(before + text.length());
-    }
-
-    private static RowPivots of(String text) {
-        RowPivots x = new RowPivots();
-        put(x, text);
-        if (x.text() == NONE) {
-            wrong++;
-            System.out.println(promise + ": FAULT " + x.fault(0) + " at " + x.fault(1) + ": " + text);
-        }
-        return x;
-    }
-
-    private static void faulty(String text, int fault, int place) {
-        RowPivots x = new RowPivots();
-        x.set(1, 1, 7, 3);
-        put(x, text);
-        due("text() of '" + text + "'", x.text(), NONE);
-        due("fault(0) of '" + text + "'", x.fault(0), fault);
-        due("fault(1) of '" + text + "'", x.fault(1), place);
-        due("the tape is empty", x.count(4), 0);
-        due("the MATRIX stays", x.entry(1, 1, false), 7);
-        due("what can be UNDONE stays", x.count(3), 1);
-    }
-
+public final class PromisesTest extends Checks {
     private static void aNewObject() {
         RowPivots x = new RowPivots();
         due("ROWS", x.count(0), 2);
@@ -738,7 +679,7 @@ public final class PromisesTest {
     }
 
     private static void name(int number, String told) {
-        promise = "promise " + number + " " + told;
+        name("promise " + number + " " + told);
     }
 
     private static void runAll() {
@@ -803,9 +744,6 @@ public final class PromisesTest {
 
     public static void main(String[] args) {
         runAll();
-        System.out.println(wrong == 0 ? "all promises are kept" : wrong + " answers are wrong");
-        if (wrong != 0) {
-            System.exit(1);
-        }
+        finish();
     }
 }
