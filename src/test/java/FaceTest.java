@@ -25,6 +25,8 @@ public final class FaceTest {
         "int residue(int,boolean)", "boolean image(int)", "boolean again(int)"};
     private static final String[] FORBIDDEN = {"throw", "try", "catch", "synchronized", "assert",
         "finally", "throws"};
+    private static final int MOST_CLASSES = 12;
+    private static final int MOST_FIELDS = 20;
     private static int wrong = 0;
 
     private static void check(boolean well, String what) {
@@ -52,8 +54,10 @@ public final class FaceTest {
             }
         }
         check(seen.equals(new TreeSet<>(Arrays.asList(FACE))), "the public methods: " + seen);
+        check(RowPivots.class.getDeclaredClasses().length < MOST_CLASSES, "how many classes");
         for (Class<?> type : RowPivots.class.getDeclaredClasses()) {
             check(Modifier.isStatic(type.getModifiers()), type + " is static");
+            check(type.getDeclaredFields().length <= MOST_FIELDS, "how many fields " + type + " has");
             checkMethods(type, names);
         }
         checkMethods(RowPivots.class, names);
@@ -68,6 +72,23 @@ public final class FaceTest {
         check(made.length == 1 && Modifier.isPublic(made[0].getModifiers())
             && made[0].getParameterCount() == 0, "the constructor");
         check(Modifier.isFinal(RowPivots.class.getModifiers()), "the class is final");
+    }
+
+    /** The face that the document itself has, where it can be read. */
+    private static void checkDocument() throws Exception {
+        Path path = Path.of("../shared/DOC.md");
+        if (!Files.exists(path)) {
+            System.out.println("note: there is no document to read the face from");
+            return;
+        }
+        Set<String> said = new TreeSet<>();
+        Matcher lines = Pattern.compile("\n    public (int|boolean) (\\w+)\\(([^)]*)\\);")
+            .matcher(new String(Files.readAllBytes(path), StandardCharsets.UTF_8));
+        while (lines.find()) {
+            String types = lines.group(3).replaceAll(" \\w+(?=,|$)", "").replace(" ", "");
+            said.add(lines.group(1) + " " + lines.group(2) + "(" + types + ")");
+        }
+        check(said.equals(new TreeSet<>(Arrays.asList(FACE))), "the document's face: " + said);
     }
 
     private static void checkMethods(Class<?> type, Set<String> names) {
@@ -96,6 +117,7 @@ public final class FaceTest {
 
     public static void main(String[] args) throws Exception {
         checkFace();
+        checkDocument();
         checkSource();
         System.out.println(wrong == 0 ? "the face is as due" : wrong + " are not so");
         if (wrong != 0) {
